@@ -1,0 +1,193 @@
+import com.sun.management.ThreadMXBean;
+import java.io.IOException;
+import java.lang.management.ManagementFactory;
+import java.lang.reflect.Field;
+import java.lang.reflect.Method;
+import java.lang.reflect.Modifier;
+import java.nio.file.Files;
+import java.nio.file.Path;
+import java.util.ArrayList;
+import java.util.Arrays;
+import java.util.Collections;
+import java.util.List;
+import java.util.Set;
+import java.util.TreeSet;
+import java.util.regex.Matcher;
+import java.util.regex.Pattern;
+
+/** The document's face, rules of LANGUAGE.md that can be seen from outside, and what calls make. */
+public final class RulesTest {
+    private static final String[] FACE = {
+        "int man(int,int,int)", "int part(int,int,int)", "int move(int,int,int)", "long front(int,int,int)",
+        "int camera(int,int,int)", "int frame(int,int)", "long sees(int,int)", "int crosser(int,int)",
+        "int feed(int,long)", "int text()", "int force(int)", "long says(int,int,int,int)", "int width(int)",
+        "int call(int,int,int,int,int)", "long told(int,int)", "int offside()", "int wrong(int,int,int,int)",
+        "int best(int,int,int)", "int match(int,int,int)", "int table(int,int,int)", "int season(int)",
+        "int stand(int,int,int)", "int shown(int,int)", "int split()", "int image()", "int back()", "int count(int)",
+        "int sheet(int,int,int)", "int cell(int,int,int)", "int copy(int,int,int,int,int)", "int men(int,int,int,int)",
+        "int taken(int,int)"};
+
+    public static void main(String[] args) throws IOException {
+        face();
+        nested();
+        source();
+        made();
+        Due.end();
+    }
+
+    private static void face() {
+        Set<String> due = new TreeSet<>(Arrays.asList(FACE));
+        Set<String> names = new TreeSet<>();
+        Set<String> got = new TreeSet<>();
+        for (Method m : ArmpitLine.class.getDeclaredMethods()) {
+            if (Modifier.isPrivate(m.getModifiers())) {
+                continue;
+            }
+            names.add(m.getName());
+            got.add(signature(m));
+            Due.holds("public, of the object: " + m, Modifier.isPublic(m.getModifiers()) && !Modifier.isStatic(m.getModifiers()));
+        }
+        Due.holds("the face is " + due + ", not " + got, due.equals(got));
+        for (Method m : ArmpitLine.class.getDeclaredMethods()) {
+            Due.holds("no private method with a public name: " + m, !Modifier.isPrivate(m.getModifiers()) || !names.contains(m.getName()));
+        }
+        Set<String> constants = new TreeSet<>();
+        for (Field f : ArmpitLine.class.getDeclaredFields()) {
+            if (!Modifier.isPrivate(f.getModifiers())) {
+                constants.add(f.getType() + " " + f.getName());
+            }
+            Due.holds("static ones are final: " + f, !Modifier.isStatic(f.getModifiers()) || Modifier.isFinal(f.getModifiers()));
+        }
+        Due.holds("constants " + constants, constants.equals(new TreeSet<>(Arrays.asList(
+                "int NONE", "int BAD", "int STATE", "int FULL", "long NO"))));
+        Due.is("constructors", ArmpitLine.class.getConstructors().length, 1);
+        Due.is("parameters of the constructor", ArmpitLine.class.getDeclaredConstructors()[0].getParameterCount(), 0);
+        Due.holds("public and final", ArmpitLine.class.getModifiers() == (Modifier.PUBLIC | Modifier.FINAL));
+    }
+
+    private static String signature(Method m) {
+        List<String> types = new ArrayList<>();
+        for (Class<?> t : m.getParameterTypes()) {
+            types.add(t.getName());
+        }
+        return m.getReturnType() + " " + m.getName() + "(" + String.join(",", types) + ")";
+    }
+
+    private static void nested() {
+        Class<?>[] inside = ArmpitLine.class.getDeclaredClasses();
+        Due.holds("some twelve classes: " + inside.length, inside.length <= 12);
+        for (Class<?> c : inside) {
+            Due.holds("static, not public: " + c, Modifier.isStatic(c.getModifiers())
+                    && !Modifier.isPublic(c.getModifiers()) && !Modifier.isProtected(c.getModifiers()));
+            Due.holds("some twenty fields: " + c, c.getDeclaredFields().length <= 20);
+            for (Method m : c.getDeclaredMethods()) {
+                Due.holds("seven parameters: " + m, m.getParameterCount() <= 7);
+            }
+        }
+    }
+
+    /** The source without comments and texts. */
+    private static String bare(String source) {
+        String noComments = source.replaceAll("(?s)/\\*.*?\\*/", " ").replaceAll("//[^\n]*", " ");
+        return noComments.replaceAll("\"[^\"\n]*\"", "\"\"").replaceAll("'[^'\n]*'", "' '");
+    }
+
+    private static void source() throws IOException {
+        String source = Files.readString(Path.of("src/main/java/ArmpitLine.java"));
+        String code = bare(source);
+        String[] never = {"throw", "throws", "try", "catch", "finally", "synchronized", "assert", "import", "package",
+            "native", "volatile", "transient", "protected", "var", "Object", "Random", "System.out", "Thread", "enum"};
+        for (String word : never) {
+            Due.holds("no " + word, !Pattern.compile("\\b" + Pattern.quote(word) + "\\b").matcher(code).find());
+        }
+        Due.holds("no lambda, no reference to a method", !code.contains("->") && !code.contains("::"));
+        Due.holds("no name that ends in Exact", !Pattern.compile("\\w+Exact\\b").matcher(code).find());
+        Due.holds("signs 1 to 127 alone", source.chars().allMatch(c -> c > 0 && c < 128));
+        List<String> library = new ArrayList<>();
+        Matcher m = Pattern.compile("\\b(Math|Integer|Long|Arrays|System)\\.(\\w+)").matcher(code);
+        while (m.find()) {
+            library.add(m.group(2));
+        }
+        library.removeAll(Arrays.asList("max", "min", "bitCount", "arraycopy"));
+        Due.is("of the library nothing else: " + library, library.size(), 0);
+        int longest = longestMethod(code);
+        Due.holds("methods stay short: " + longest, longest <= 60);
+        Due.holds("objects are made with the object alone", madeInFields(code));
+    }
+
+    private static int longestMethod(String code) {
+        int longest = 0;
+        int start = -1;
+        String[] lines = code.split("\n");
+        for (int i = 0; i < lines.length; i++) {
+            if (lines[i].matches("( {4}| {8})[a-z].*\\) \\{")) {
+                start = i;
+            } else if (start >= 0 && lines[i].matches("( {4}| {8})\\}")) {
+                longest = Math.max(longest, i - start + 1);
+                start = -1;
+            }
+        }
+        return longest;
+    }
+
+    private static boolean madeInFields(String code) {
+        for (String line : code.split("\n")) {
+            if (line.contains("new ") && !line.matches("\\s+(private )?final \\S+ \\w+ = new .*;")) {
+                System.out.println("made elsewhere: " + line);
+                return false;
+            }
+        }
+        return true;
+    }
+
+    /** Rows are made in constructors: a run of the dearest calls makes nothing more. */
+    private static void made() {
+        ThreadMXBean bean = (ThreadMXBean) ManagementFactory.getThreadMXBean();
+        long thread = Thread.currentThread().getId();
+        List<Long> makings = new ArrayList<>();
+        List<Long> runs = new ArrayList<>();
+        for (int again = 0; again < 20; again++) {
+            long before = bean.getThreadAllocatedBytes(thread);
+            ArmpitLine x = new ArmpitLine();
+            long between = bean.getThreadAllocatedBytes(thread);
+            dearRun(x);
+            makings.add(between - before);
+            runs.add(bean.getThreadAllocatedBytes(thread) - between);
+        }
+        Due.holds("bytes of an object: " + Collections.min(makings), Collections.min(makings) < 40000);
+        Due.holds("bytes of a run: " + Collections.min(runs), Collections.min(runs) < 2000);
+    }
+
+    private static void dearRun(ArmpitLine x) {
+        for (int m = 0; m < 10; m++) {
+            x.man(m % 4, 1000 + m, m - 5);
+        }
+        x.camera(3, 1, 5);
+        x.crosser(7, 9);
+        for (int c = 0; c < 24; c++) {
+            x.call(c % 6, c % 10, (c + 1) % 10, c, 0);
+        }
+        for (int m = 0; m < 12; m++) {
+            x.match(m % 3 * 10 + 3, 0, (1 << 24) - 1);
+        }
+        x.sheet(0, 2, 8);
+        for (int round = 0; round < 5; round++) {
+            x.feed(8, 0x6e756f6320202020L);
+            x.text();
+            for (int c = 0; c < 24; c++) {
+                x.told(c, 9);
+                x.told(c, 6);
+            }
+            x.season(0);
+            x.best(0, (1 << 24) - 1, 101);
+            x.wrong(0, (1 << 24) - 1, 7, 1);
+            x.stand(0, 9, (1 << 24) - 1);
+            x.shown(round, 0);
+            x.split();
+            x.image();
+            x.back();
+            x.copy(0, 0, 0, 1, 7);
+            x.men(0, 2, 0, 2);
+        }
+    }
+}
