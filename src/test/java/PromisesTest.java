@@ -91,6 +91,19 @@ public final class PromisesTest {
         Due.is("3: man 2", x.part(2, 3, 0), -1000);
         Due.is("3: far off", x.part(MOST, MOST, MOST), -1000);
         Due.is("3: nothing changed", x.part(0, 3, 0), 5);
+        for (int m = 2; m < 10; m++) {
+            x.man(2, 0, 0);
+        }
+        for (int m = 0; m < 10; m++) {
+            for (int p = 0; p < 4; p++) {
+                x.part(m, p, 4 * m + p);
+            }
+        }
+        for (int m = 0; m < 10; m++) {
+            for (int p = 0; p < 4; p++) {
+                Due.is("3: each part is its own", x.part(m, p, 0), 4 * m + p);
+            }
+        }
     }
 
     private static void moves() {
@@ -166,9 +179,13 @@ public final class PromisesTest {
             Due.is("7: frame(0, " + d[0] + ")", x.frame(0, d[0]), d[1]);
         }
         Due.is("7: each tick", x.frame(1, 137), 137);
+        x.camera(2, 9, 0);
+        Due.is("7: some frames ahead of the first", x.frame(2, 0), 9);
+        Due.is("7: one tick ahead of it", x.frame(2, 8), 9);
+        Due.is("7: behind it", x.frame(2, 12), 11);
         Due.is("7: tick -1", x.frame(0, -1), BAD);
         Due.is("7: tick 201", x.frame(0, 201), BAD);
-        Due.is("7: camera 2", x.frame(2, 0), BAD);
+        Due.is("7: camera 3", x.frame(3, 0), BAD);
         Due.is("7: camera -1", x.frame(-1, 0), BAD);
     }
 
@@ -177,6 +194,7 @@ public final class PromisesTest {
         Due.is("8: no camera", x.sees(0, 0), NO);
         x.camera(1, 0, 7);
         x.camera(1, 0, -9);
+        Due.is("8: 1000 by 7", x.sees(0, 1000), 1007);
         Due.is("8: 142 by 7", x.sees(0, 142), 142);
         Due.is("8: 143 by 7", x.sees(0, 143), 144);
         Due.is("8: -143 by 7", x.sees(0, -143), -144);
@@ -342,6 +360,8 @@ public final class PromisesTest {
         }
         x.move(0, 1, 0);
         Due.is("16: a man who stands has the lean less", x.told(2, 1), 1003 - 20 - (1986 - 20));
+        x.move(0, 1, 1);
+        Due.is("16: a man who just moves has the lean", x.told(2, 1), 1008 + 20 - (1986 - 20));
         Due.is("16: call 6", x.told(6, 0), NO);
         Due.is("16: call -1", x.told(-1, 0), NO);
         Due.is("16: what 10", x.told(0, 10), NO);
@@ -442,8 +462,13 @@ public final class PromisesTest {
         Due.read(x, "count 1; near 30 * (300 < width); play 0;");
         x.force(2);
         Due.is("16: near by the width", x.told(3, 9), 301);
+        Due.read(x, "count width; near width; play 0;");
+        x.force(3);
+        Due.is("16: both by the width", x.told(3, 9), 0);
+        x.move(0, 0, 92);
+        Due.is("16: both by the width, and later", x.told(3, 9), 21);
         Due.is("16: turns do not change WIDTH", x.count(9), 3);
-        Due.is("16: nor what is told then", x.told(3, 2), 1);
+        Due.is("16: nor what is told then", x.told(3, 2), 4);
     }
 
     private static long waysOfNone() {
@@ -524,8 +549,11 @@ public final class PromisesTest {
         Due.is("19: the second call alone", x.best(0, 2, 9999), 500);
         Due.is("19: the first call alone", x.best(0, 1, 9999), 8);
         Due.is("19: WIDTH stays", x.count(9), 0);
+        x.call(3, 2, 1, 0, 10);
+        Due.is("19: two wrong nones that cost nothing", x.best(0, 7, 100), 8);
+        Due.is("19: two wrong nones for one goal", x.best(0, 7, 302), 500);
         Due.is("19: sheet 4", x.best(4, 3, 0), BAD);
-        Due.is("19: calls 4", x.best(0, 4, 0), BAD);
+        Due.is("19: calls 8", x.best(0, 8, 0), BAD);
         Due.is("19: calls -1", x.best(0, -1, 0), BAD);
         Due.is("19: prices -1", x.best(0, 3, -1), BAD);
         Due.is("19: prices 10000", x.best(0, 3, 10000), BAD);
@@ -628,6 +656,28 @@ public final class PromisesTest {
         y.match(1, 50, 1);
         Due.ints(y, 0, 0, 9, 0);
         Due.is("22: no rank changes", y.season(0), 0);
+        for (int side = 0; side < 4; side++) {
+            Due.is("22: only the rank of side " + side, seasonOfOne(side), 1);
+        }
+    }
+
+    /** A side is as high as the next one, till that one has a goal more; the last one is far below. */
+    private static int seasonOfOne(int side) {
+        int next = (side + 1) % 4;
+        int third = (side + 2) % 4;
+        int last = (side + 3) % 4;
+        ArmpitLine x = new ArmpitLine();
+        x.man(next, 100, 0);
+        x.man(last, 90, 0);
+        x.camera(1, 0, 0);
+        x.crosser(0, 0);
+        x.call(3, 0, 1, 0, 0);
+        x.match(side * 10 + third, 50, 0);
+        x.match(next * 10 + last, 50, 1);
+        x.match(last * 10 + third, 0, 0);
+        x.match(last * 10 + third, 9, 0);
+        Due.ints(x, 0, 0, 9);
+        return x.season(0);
     }
 
     private static void stands() {
@@ -697,7 +747,13 @@ public final class PromisesTest {
         y.shown(0, 0);
         y.shown(3, 0);
         y.shown(28, 0);
-        Due.is("25: one mark, though greater as bits", y.split(), 32);
+        Due.is("25: the one mark", y.split(), 32);
+        ArmpitLine z = new ArmpitLine();
+        z.shown(35, 1);
+        z.shown(1, 0);
+        z.shown(2, 0);
+        z.shown(0, 0);
+        Due.is("25: one mark, though two are less as bits", z.split(), 32);
     }
 
     private static void images() {
@@ -712,6 +768,7 @@ public final class PromisesTest {
         x.part(0, 2, 8);
         x.man(1, 30, 3);
         x.part(1, 1, 9);
+        x.part(1, 0, 91);
         x.width(6);
         Due.read(x, "count 1; near 1; play 1;");
         x.force(1);
@@ -723,6 +780,7 @@ public final class PromisesTest {
         Due.is("27: who came since, stays", x.count(0), 2);
         Due.is("27: his place", x.front(1, 0, 2), 30);
         Due.is("27: his part", x.part(1, 1, 53), 9);
+        Due.is("27: his head", x.part(1, 0, 92), 91);
         Due.is("27: width", x.width(54), 5);
         Due.is("27: rule", x.force(1), 0);
         Due.is("27: the text stays", x.count(6), 2);

@@ -8,6 +8,7 @@ public final class TextsTest {
         faultsOfOrder();
         faultsOfDepth();
         longest();
+        manyTokens();
         worths();
         names();
         Due.end();
@@ -48,6 +49,8 @@ public final class TextsTest {
         faultIn("1or1and1", FINE);
         faultIn("not1", FINE);
         faultIn("off2", 3);
+        faultIn("part{", 4);
+        faultIn("part`", 4);
         faultIn("{", 0);
         faultIn("`", 0);
         faultIn("\u00ff", 0);
@@ -63,6 +66,8 @@ public final class TextsTest {
         faultIn("10000", 0);
         faultIn("00000", 0);
         faultIn("1 + 12345678901234567890", 4);
+        faultIn("1:", 1);
+        faultIn("1/", 1);
         faultIn("1 2", 2);
         faultIn("1234 5", 5);
     }
@@ -163,6 +168,26 @@ public final class TextsTest {
         Due.is("160 bytes that end too early", Due.read(x, full.toString()), -100 - 160);
         full.setCharAt(159, '!');
         Due.is("a fault at the last byte", Due.read(x, full.toString()), -100 - 159);
+    }
+
+    /** As many tokens as there are bytes, and bytes that an earlier tape left behind. */
+    private static void manyTokens() {
+        fault(";".repeat(160), 0);
+        fault("(".repeat(160), 0);
+        fault("count(((((" + ")".repeat(150), 10);
+        fault("count 1;near 1;play 1;" + "(".repeat(138), 22);
+        ArmpitLine x = new ArmpitLine();
+        Due.is("digits first", Due.read(x, "count 999999999"), -106);
+        Due.is("digits that are no more there", Due.read(x, "count 1234"), -110);
+        Due.is("letters first", Due.read(x, "count part = tickt"), -113);
+        Due.is("letters that are no more there", Due.read(x, "count part = tick"), -117);
+        Due.is("a fault leaves nothing behind", Due.read(x, "count 1 + 2; near 3 *"), -121);
+        Due.is("a text behind it", Due.read(x, "count 5; near 6; play 7;"), 1);
+        x.force(1);
+        x.man(0, 0, 0);
+        for (int key = 0; key < 3; key++) {
+            Due.is("what it says", x.says(0, 0, 0, key), 5 + key);
+        }
     }
 
     /** What an E comes to for the man, the part 2 and the tick 9. */
