@@ -12,10 +12,13 @@ public final class TwinTest {
     private final ArmpitLine mine = new ArmpitLine();
     private final Twin twin = new Twin();
     private final List<String> said = new ArrayList<>();
+    private final boolean isTight;
     private boolean isAlike = true;
 
+    /** In a tight run men stay near one another and slow, so that many calls hang on the width. */
     private TwinTest(long seed) {
         random = new Random(seed);
+        isTight = seed % 2 == 0;
     }
 
     public static void main(String[] args) {
@@ -45,15 +48,27 @@ public final class TwinTest {
 
     /** Things enough for calls to be made, as wholly random runs seldom have them. */
     private int lay() {
-        for (int k = 2 + random.nextInt(4); k > 0; k--) {
+        int men = 2 + random.nextInt(4);
+        for (int k = 0; k < men; k++) {
             int side = random.nextInt(4);
             int place = 1000 + random.nextInt(60);
-            int speed = random.nextInt(13) - 6;
+            int speed = isTight ? random.nextInt(3) - 1 : random.nextInt(13) - 6;
             due("man " + side + " " + place + " " + speed, mine.man(side, place, speed), twin.man(side, place, speed));
         }
         due("camera", mine.camera(5, 2, 3), twin.camera(5, 2, 3));
         due("crosser", mine.crosser(-4, 3), twin.crosser(-4, 3));
-        return 8;
+        return men + 2 + (isTight ? layWidths() : 0);
+    }
+
+    private int layWidths() {
+        for (int sheet = 0; sheet < 2; sheet++) {
+            due("sheet " + sheet + " 2 6", mine.sheet(sheet, 2, 6), twin.sheet(sheet, 2, 6));
+            for (int i = 0; i < 6; i++) {
+                int v = random.nextInt(40);
+                due("cell " + sheet + " " + i + " " + v, mine.cell(sheet, i, v), twin.cell(sheet, i, v));
+            }
+        }
+        return 14;
     }
 
     private void due(String call, long got, long want) {
@@ -102,25 +117,26 @@ public final class TwinTest {
         switch (random.nextInt(8)) {
             case 0:
                 int side = some(0, 3);
-                int place = random.nextBoolean() ? some(0, 9999) : some(1000, 1060);
-                v = some(-99, 99);
+                int place = isTight || random.nextBoolean() ? some(1000, 1060) : some(0, 9999);
+                v = isTight ? some(-2, 2) : some(-99, 99);
                 due("man " + side + " " + place + " " + v, mine.man(side, place, v), twin.man(side, place, v));
                 return 1;
             case 1:
             case 2:
             case 3:
                 what = some(0, 3);
-                v = random.nextBoolean() ? some(-199, 199) : some(-9, 9);
+                v = isTight || random.nextBoolean() ? some(-9, 9) : some(-199, 199);
                 due("part " + a + " " + what + " " + v, mine.part(a, what, v), twin.part(a, what, v));
                 return 1;
             case 4:
                 what = some(0, 1);
-                v = what == 0 ? some(1000, 1060) : some(-9, 9);
+                v = what == 0 ? some(1000, 1060) : isTight ? some(-2, 2) : some(-9, 9);
                 due("move " + a + " " + what + " " + v, mine.move(a, what, v), twin.move(a, what, v));
                 return 1;
             case 5:
                 what = some(0, 1);
-                v = what == 0 ? some(0, 9999) : some(-99, 99);
+                what = isTight ? 1 : what;
+                v = isTight ? some(-1, 1) : what == 0 ? some(0, 9999) : some(-99, 99);
                 due("move " + a + " " + what + " " + v, mine.move(a, what, v), twin.move(a, what, v));
                 return 1;
             default:
@@ -161,7 +177,7 @@ public final class TwinTest {
                 int kind = some(0, 5);
                 a = oneOf(mine.count(0));
                 b = oneOf(mine.count(0));
-                c = random.nextBoolean() ? some(0, 200) : some(0, 12);
+                c = isTight || random.nextBoolean() ? some(0, 12) : some(0, 200);
                 int by = oneOf(mine.count(1)) * 10 + oneOf(mine.count(2));
                 due("call " + kind + " " + a + " " + b + " " + c + " " + by, mine.call(kind, a, b, c, by), twin.call(kind, a, b, c, by));
                 return 1;
@@ -222,7 +238,7 @@ public final class TwinTest {
         int a;
         switch (random.nextInt(3)) {
             case 0:
-                a = oneOf(mine.count(6));
+                a = isTight && random.nextBoolean() ? 0 : oneOf(mine.count(6));
                 due("force " + a, mine.force(a), twin.force(a));
                 return 1;
             case 1:
@@ -270,7 +286,7 @@ public final class TwinTest {
                 return 1;
             case 2:
                 c = some(0, 3) * 10 + some(0, 3);
-                d = random.nextBoolean() ? some(0, 99) : some(0, 1);
+                d = isTight || random.nextBoolean() ? some(0, 1) : some(0, 99);
                 due("match " + c + " " + d + " " + b, mine.match(c, d, b), twin.match(c, d, b));
                 return 1;
             case 3:
@@ -321,7 +337,7 @@ public final class TwinTest {
         int c;
         int d;
         int e;
-        switch (random.nextInt(9)) {
+        switch (isTight ? 3 : random.nextInt(9)) {
             case 0:
                 b = random.nextInt(9) == 0 ? -1 : some(0, 2);
                 c = random.nextInt(4) == 0 ? some(0, 40) : some(0, 8);
@@ -345,7 +361,7 @@ public final class TwinTest {
                 return 1;
             default:
                 b = some(0, 8);
-                c = random.nextInt(12) == 0 ? random.nextInt() : random.nextBoolean() ? some(0, 3) : some(0, 60);
+                c = random.nextInt(12) == 0 && !isTight ? random.nextInt() : random.nextBoolean() ? some(0, 3) : some(0, 60);
                 due("cell " + a + " " + b + " " + c, mine.cell(a, b, c), twin.cell(a, b, c));
                 return 1;
         }
