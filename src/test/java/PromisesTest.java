@@ -1,4 +1,7 @@
-/** Promise by promise: ordinary inputs, the edges that the document names, and wrong inputs. */
+/**
+ * Promise by promise: ordinary inputs, the edges that the document names, and wrong inputs. The remark
+ * at each test says which sentences it holds; SentencesTest has a test for each sentence alone.
+ */
 public final class PromisesTest {
     private static final int NONE = ArmpitLine.NONE, BAD = ArmpitLine.BAD;
     private static final int STATE = ArmpitLine.STATE, FULL = ArmpitLine.FULL;
@@ -41,6 +44,7 @@ public final class PromisesTest {
         Due.end();
     }
 
+    /** Promise 1 "No MEN; WIDTH 0."; promise 28 of a new object. */
     private static void newObject() {
         ArmpitLine x = new ArmpitLine();
         long[] due = {0, 0, 0, 0, 0, 0, 1, 0, 0, 0};
@@ -54,6 +58,7 @@ public final class PromisesTest {
         Due.is("1: NO", NO, -4611686018427387904L);
     }
 
+    /** Promise 2 "A MAN: his number. BAD; FULL."; Terms 1 "MEN (10 at most, numbered from 0)", SIDE, PLACE, SPEED. */
     private static void men() {
         ArmpitLine x = new ArmpitLine();
         Due.is("2: least", x.man(0, 0, -99), 0);
@@ -73,6 +78,7 @@ public final class PromisesTest {
         Due.is("2: where the ninth is", x.front(9, 3, 2), 36);
     }
 
+    /** Promise 3 "PART of a MAN: how far ahead it was. -1000: none such."; Terms 1 "(-199 .. 199; 0 at first)". */
     private static void parts() {
         ArmpitLine x = new ArmpitLine();
         Due.is("3: no man", x.part(0, 0, 0), -1000);
@@ -106,6 +112,7 @@ public final class PromisesTest {
         }
     }
 
+    /** Promise 4 "PLACE (what 0), SPEED (1) of a MAN become v: what was. -1000: none such." */
     private static void moves() {
         ArmpitLine x = new ArmpitLine();
         Due.is("4: no man", x.move(0, 0, 0), -1000);
@@ -122,6 +129,7 @@ public final class PromisesTest {
         Due.is("4: speed stayed", x.move(0, 1, 5), -99);
     }
 
+    /** Promise 5; Terms 1 "FRONT of a MAN in a TICK", "of like ones the least PART is foremost", "without any where he is". */
     private static void fronts() {
         ArmpitLine x = new ArmpitLine();
         Due.is("5: no man", x.front(0, 0, 0), NO);
@@ -154,6 +162,7 @@ public final class PromisesTest {
         Due.is("5: none counts, the foot", x.front(0, 4, 1), 3);
     }
 
+    /** Promise 6 "A CAMERA: its number. BAD; FULL."; Terms 1 "CAMERAS (4 at most, numbered from 0)". */
     private static void cameras() {
         ArmpitLine x = new ArmpitLine();
         int[][] bad = {{0, 0, 0}, {21, 0, 0}, {1, -1, 0}, {1, 20, 0}, {1, 0, -10}, {1, 0, 10}, {LEAST, 0, 0}, {1, 0, MOST}};
@@ -169,6 +178,7 @@ public final class PromisesTest {
         Due.is("6: count", x.count(1), 4);
     }
 
+    /** Promise 7 "FRAME. BAD."; Terms 1 "the latest of its TICKS that is not behind it; its first one, if there is none." */
     private static void frames() {
         ArmpitLine x = new ArmpitLine();
         Due.is("7: no camera", x.frame(0, 0), BAD);
@@ -189,6 +199,7 @@ public final class PromisesTest {
         Due.is("7: camera -1", x.frame(-1, 0), BAD);
     }
 
+    /** Promise 8 "(-99999 .. 99999). NO: none such."; Terms 1 "p and SLANT times p by 1000 (cut)". */
     private static void seen() {
         ArmpitLine x = new ArmpitLine();
         Due.is("8: no camera", x.sees(0, 0), NO);
@@ -208,6 +219,7 @@ public final class PromisesTest {
         Due.is("8: the least int", x.sees(0, LEAST), NO);
     }
 
+    /** Promise 9 "A CROSSER: its number. BAD; FULL."; Terms 1 "CROSSERS (6 at most, numbered from 0)". */
     private static void crossers() {
         ArmpitLine x = new ArmpitLine();
         int[][] bad = {{-21, 0}, {21, 0}, {0, -1}, {0, 10}, {MOST, 0}, {0, LEAST}};
@@ -224,6 +236,7 @@ public final class PromisesTest {
         Due.is("9: count", x.count(2), 6);
     }
 
+    /** Promise 10 "BAD: n is not 1 .. 8. FULL."; Terms 1 "THE TAPE (160 bytes at most)". */
     private static void fed() {
         ArmpitLine x = new ArmpitLine();
         Due.is("10: n 0", x.feed(0, 5), BAD);
@@ -251,6 +264,7 @@ public final class PromisesTest {
         Due.is("10: z is the first", x.text(), -100);
     }
 
+    /** Promises 11 "FULL (ahead of all)" and 12 "which was. BAD."; Terms 1 "There are 6 TEXTS at most, TEXT 0 with them." */
     private static void textsAndForce() {
         ArmpitLine x = new ArmpitLine();
         Due.is("12: no text 1", x.force(1), BAD);
@@ -273,6 +287,7 @@ public final class PromisesTest {
         Due.is("12: it rules", x.says(0, 0, 0, 1), 3);
     }
 
+    /** Promise 13 "NO: none such."; Terms 1 "TEXT 0, at first THE RULE, is". */
     private static void said() {
         ArmpitLine x = new ArmpitLine();
         Due.is("13: no man", x.says(0, 0, 0, 0), NO);
@@ -294,6 +309,7 @@ public final class PromisesTest {
         }
     }
 
+    /** Promise 14 "WIDTH: what it was. BAD."; Terms 1 "WIDTH (0 .. 999; 0 at first)". */
     private static void widths() {
         ArmpitLine x = new ArmpitLine();
         Due.is("14: at first", x.width(999), 0);
@@ -314,6 +330,7 @@ public final class PromisesTest {
         return x;
     }
 
+    /** Promise 15 "its number. BAD; FULL."; Terms 2 "CALLS (24 at most, numbered from 0)", "one who defends (another one)". */
     private static void calls() {
         ArmpitLine x = new ArmpitLine();
         x.man(0, 100, 0);
@@ -340,6 +357,7 @@ public final class PromisesTest {
         Due.is("15: the tick", x.taken(23, 0), 200);
     }
 
+    /** Promise 16 "NO: none such."; Terms 2 "MARGIN" of each KIND, "if the MAN's SPEED is above 0, else less it", "FRAME ERROR". */
     private static void margins() {
         ArmpitLine x = new ArmpitLine();
         x.man(0, 1000, 6);
@@ -369,6 +387,7 @@ public final class PromisesTest {
         Due.is("16: far off", x.told(MOST, LEAST), NO);
     }
 
+    /** Promise 16; Terms 2 "AHEAD: MARGIN above BAND", "BAND", "OFFSIDE", "WRONG"; Terms 1 "near (0 .. 999, else the bound)". */
     private static void bandsAndOffside() {
         ArmpitLine x = pair();
         x.man(0, 91, 0);
@@ -424,6 +443,7 @@ public final class PromisesTest {
         Due.is("16: frame error by parts that count", x.told(6, 8), 50);
     }
 
+    /** Promise 16; Terms 2 "WAYS of a LINED CALL (or one under it)", "TURNS: the least number (0 .. 999)". */
     private static void waysAndTurns() {
         ArmpitLine x = pair();
         x.crosser(0, 2);
@@ -477,6 +497,7 @@ public final class PromisesTest {
         return x.told(0, 6);
     }
 
+    /** Promise 17 "CALLS (bits, of 24) that are OFFSIDE." */
     private static void offsideBits() {
         ArmpitLine x = pair();
         Due.is("17: no calls", x.offside(), 0);
@@ -489,6 +510,7 @@ public final class PromisesTest {
         Due.is("17: none by that width", x.offside(), 0);
     }
 
+    /** Promise 18; Terms 3 "BY WIDTHS: of told WIDTHS (a SHEET, 1 to 8 of them; each as if it were WIDTH) and told CALLS (bits)". */
     private static void wrongs() {
         ArmpitLine x = pair();
         Due.ints(x, 0, 8, 9, 0, 999);
@@ -534,6 +556,7 @@ public final class PromisesTest {
         Due.is("18: 1000 is no width", x.wrong(1, 7, 0, 0), BAD);
     }
 
+    /** Promise 19; Terms 3 "by two PRICES (0 .. 99 ..): the one by which all together cost least; of like ones the first." */
     private static void bests() {
         ArmpitLine x = pair();
         x.man(2, 85, 50);
@@ -569,6 +592,7 @@ public final class PromisesTest {
         Due.is("19: size 1", x.best(1, 3, 9999), 0);
     }
 
+    /** Promise 20 "its number. BAD; FULL."; Terms 3 "MATCHES (12 at most, numbered from 0): two SIDES (unlike), GOALS .. (0 .. 9)". */
     private static void matches() {
         ArmpitLine x = pair();
         x.call(0, 0, 1, 0, 0);
@@ -585,6 +609,7 @@ public final class PromisesTest {
         Due.is("20: count", x.count(4), 12);
     }
 
+    /** Promise 21; Terms 3 "A TABLE by a WIDTH (as if that were WIDTH)", "POINTS (3 for more goals .., 1 for as many)". */
     private static void tables() {
         ArmpitLine x = pair();
         for (int side = 0; side < 4; side++) {
@@ -620,6 +645,7 @@ public final class PromisesTest {
         rankByDifference();
     }
 
+    /** Promise 21; Terms 3 "or as many and a greater difference of goals". */
     private static void rankByDifference() {
         ArmpitLine x = new ArmpitLine();
         x.match(1, 20, 0);
@@ -630,6 +656,7 @@ public final class PromisesTest {
         Due.is("21: lost by more", x.table(0, 3, 3), 3);
     }
 
+    /** Promise 22; Terms 3 "in how many pairs of neighbours of the SHEET some SIDE's RANK is another one." */
     private static void seasons() {
         ArmpitLine x = pair();
         x.call(3, 0, 1, 0, 0);
@@ -680,6 +707,7 @@ public final class PromisesTest {
         return x.season(0);
     }
 
+    /** Promise 23; Terms 3 "STAND: as if the PLACE of each MAN of a SIDE were less by half (cut)". */
     private static void stands() {
         ArmpitLine x = pair();
         x.man(0, 97, 0);
@@ -717,6 +745,7 @@ public final class PromisesTest {
         Due.is("23: not in play by 998", x.stand(0, 998, 8), 0);
     }
 
+    /** Promises 24 "BAD; FULL." and 25 "NONE."; Terms 3 "CASES (40 at most, numbered from 0)", "SPLIT". */
     private static void casesAndSplit() {
         ArmpitLine x = new ArmpitLine();
         Due.is("25: no cases", x.split(), 0);
@@ -756,6 +785,7 @@ public final class PromisesTest {
         Due.is("25: one mark, though two are less as bits", z.split(), 32);
     }
 
+    /** Promises 26 and 27 "STATE: there is none."; Terms 3 "(MEN that came since stay as they are)". */
     private static void images() {
         ArmpitLine x = new ArmpitLine();
         Due.is("27: none", x.back(), STATE);
@@ -797,6 +827,7 @@ public final class PromisesTest {
         Due.is("27: its place", x.front(0, 0, 2), 60);
     }
 
+    /** Promise 28 "How many", "BAD." */
     private static void counts() {
         ArmpitLine x = pair();
         x.man(2, 0, 0);
@@ -827,6 +858,7 @@ public final class PromisesTest {
         Due.is("28: count(least)", x.count(LEAST), BAD);
     }
 
+    /** Promise 29 "all 0, or missing (sort -1: n does not matter)", "BAD: no such SHEET, sort; n above 40; -14." */
     private static void sheets() {
         ArmpitLine x = new ArmpitLine();
         Due.is("29: sheet -1", x.sheet(-1, 0, 1), BAD);
@@ -854,6 +886,7 @@ public final class PromisesTest {
         Due.is("29: all 0 again", x.men(1, 2, 0, 1), 1);
     }
 
+    /** Promise 30 "(of bytes, shorts its lowest 8, 16 bits)", "BAD: no such SHEET; -11; -12." */
     private static void cells() {
         ArmpitLine x = new ArmpitLine();
         Due.is("30: sheet -1", x.cell(-1, 0, 0), BAD);
@@ -885,6 +918,7 @@ public final class PromisesTest {
         Due.is("30: ints stay", x.men(0, 2, 0, 1), 0);
     }
 
+    /** Promise 31 "(as they were)", "BAD: no such SHEET; -11; -13: they are of unlike sorts; -12 (also with n below 0)." */
     private static void copies() {
         ArmpitLine x = new ArmpitLine();
         Due.is("31: sheet 4", x.copy(4, 0, 0, 0, 0), BAD);
@@ -922,6 +956,7 @@ public final class PromisesTest {
         Due.is("31: speed 3 again", x.move(2, 1, 0), 3);
     }
 
+    /** Promise 32 "(others are left out)", "BAD: no such SHEET, sort, n; -13; -11; -12: what stood ahead came." */
     private static void menBySheet() {
         ArmpitLine x = new ArmpitLine();
         Due.is("32: sheet 4", x.men(4, 0, 0, 0), BAD);
@@ -953,6 +988,7 @@ public final class PromisesTest {
         Due.is("32: full, and outside", x.men(0, 1, 35, 10), -12);
     }
 
+    /** Promise 33 "or one under that one (also by others between)", "BAD: k; -11: no such CALL; -13." */
     private static void taken() {
         ArmpitLine x = pair();
         Due.is("33: no call", x.taken(0, 0), -11);

@@ -1,4 +1,7 @@
-/** How texts are read (promises 10, 11), where their faults are, and what they come to (13). */
+/**
+ * How texts are read (promises 10, 11), where their faults are, and what they come to (13). The remark
+ * at each test says which sentences it holds.
+ */
 public final class TextsTest {
     private static final int FINE = -1;
 
@@ -28,6 +31,7 @@ public final class TextsTest {
         fault("count " + e + ";near 0;play 1;", place == FINE ? FINE : 6 + place);
     }
 
+    /** Terms 1 "WORDS (a .. z)", "a WORD that is neither KEY nor NAME", "also of a byte that begins none". */
     private static void faultsOfWords() {
         faultIn("part", FINE);
         faultIn("parts", 0);
@@ -60,6 +64,7 @@ public final class TextsTest {
         faultIn("1 : 2", 2);
     }
 
+    /** Terms 1 "NUMBERS (as many digits as stand there, 4 at most)", "a NUMBER that is too long". */
     private static void faultsOfNumbers() {
         faultIn("9999", FINE);
         faultIn("0000", FINE);
@@ -72,6 +77,7 @@ public final class TextsTest {
         faultIn("1234 5", 5);
     }
 
+    /** Terms 1 "TEXT: count E ; near E ; play E ;" and what E stands for, "(the text's size, if it ends too early)". */
     private static void faultsOfOrder() {
         fault("", 0);
         fault("   ", 3);
@@ -123,6 +129,7 @@ public final class TextsTest {
         faultIn("= 1", 0);
     }
 
+    /** Terms 1 "a ( , a not, a - ahead of a ONE while 5 of these are open", "(a ( till its ) , not and - till what they belong to ends)". */
     private static void faultsOfDepth() {
         faultIn("(((((1)))))", FINE);
         faultIn("((((((1))))))", 5);
@@ -151,6 +158,7 @@ public final class TextsTest {
         faultIn("((((-(1)))))", 5);
     }
 
+    /** Terms 1 "THE TAPE (160 bytes at most)"; promise 11 "-100 less the place of its FAULT." */
     private static void longest() {
         ArmpitLine x = new ArmpitLine();
         StringBuilder full = new StringBuilder("count 1");
@@ -203,6 +211,7 @@ public final class TextsTest {
         Due.is("play beside it", x.says(0, 2, 9, 2), 1);
     }
 
+    /** Terms 1 "An E is an int (32 bits, wrapping): of or, and, not, <, = 1 or 0 (what is not 0 is true)." */
     private static void worths() {
         worth("7", 7);
         worth("0007", 7);
@@ -248,6 +257,7 @@ public final class TextsTest {
         worth("8192 * 8192 * 32 < 0", 1);
     }
 
+    /** Terms 1 "NAMES are part off speed team tick width", "Of a MAN's PART and a TICK". */
     private static void names() {
         worth("part", 2);
         worth("off", -33);

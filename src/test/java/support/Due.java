@@ -2,15 +2,39 @@
 final class Due {
     private static int wrong = 0;
     private static int asked = 0;
+    private static int sentences = 0;
+    private static int askedBefore = 0;
+    private static String sentence = "";
 
     private Due() {
+    }
+
+    /** What is asked from here on holds these words of the document; they must stand there. */
+    static void sentence(String where, String words) {
+        closeSentence();
+        sentences++;
+        sentence = where + " \"" + words + "\": ";
+        if (!Doc.name(where, words)) {
+            wrong++;
+            System.out.println(sentence + "these words do not stand there");
+        }
+        askedBefore = asked;
+    }
+
+    /** A sentence that is named, but asks for nothing, is not held. */
+    private static void closeSentence() {
+        if (!sentence.isEmpty() && asked == askedBefore) {
+            wrong++;
+            System.out.println(sentence + "nothing is asked");
+        }
+        sentence = "";
     }
 
     static void is(String call, long got, long want) {
         asked++;
         if (got != want) {
             wrong++;
-            System.out.println(call + " answered " + got + ", due is " + want);
+            System.out.println(sentence + call + " answered " + got + ", due is " + want);
         }
     }
 
@@ -19,7 +43,9 @@ final class Due {
     }
 
     static void end() {
-        System.out.println(asked + " answers asked, " + wrong + " not as due");
+        closeSentence();
+        String of = sentences > 0 ? " under " + sentences + " sentences" : "";
+        System.out.println(asked + " answers asked" + of + ", " + wrong + " not as due");
         if (wrong != 0 || asked == 0) {
             System.exit(1);
         }
@@ -41,6 +67,13 @@ final class Due {
     static int read(ArmpitLine x, String text) {
         feed(x, text);
         return x.text();
+    }
+
+    /** Makes a text the rule. */
+    static void rule(ArmpitLine x, String text) {
+        int number = read(x, text);
+        is("text \"" + text + "\" is one", number >= 0 ? 1 : number, 1);
+        x.force(number);
     }
 
     /** Makes a sheet of ints of these numbers. */
