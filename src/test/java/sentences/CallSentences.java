@@ -406,6 +406,9 @@ final class CallSentences {
         Due.is("whatever the width is", x.told(0, 9), NONE);
         Due.is("the width stays", x.count(9), 77);
         Due.is("the band stays", x.told(0, 2), 78);
+        x.move(0, 0, 1400);
+        Due.is("by 899", x.told(0, 9), 899);
+        Due.is("offside by the width, still 77", x.offside(), 1);
     }
 
     private static void turnsLeast() {
@@ -425,6 +428,13 @@ final class CallSentences {
         }
         x.part(0, 2, -3);
         Due.is("not for a margin of 2", x.told(0, 9), NONE);
+        Due.rule(x, "count width; near width; play 1;");
+        x.move(0, 0, 495);
+        x.part(0, 1, 12);
+        Due.is("not by 0, as no part counts", x.told(3, 9), 0);
+        x.move(0, 0, 502);
+        Due.is("ahead by 2 by width 0, then by 14", x.told(3, 9), 13);
+        x.part(0, 1, 0);
         Due.rule(x, "count part = 2 and 40 < width or part = 1 and width < 41; near width; play 1;");
         x.move(0, 0, 510);
         Due.is("near turns it ahead of the parts", x.told(3, 9), 9);

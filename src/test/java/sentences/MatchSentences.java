@@ -132,6 +132,10 @@ final class MatchSentences {
         Due.is("as many by a call", x.table(9, 0, POINTS), 1);
         x.match(1, 10, 1);
         Due.is("of both matches", x.table(9, 0, POINTS), 4);
+        x.match(1, 44, 0);
+        Due.is("of three, the last as many", x.table(9, 0, POINTS), 5);
+        x.match(1, 45, 0);
+        Due.is("of four, the last lost", x.table(9, 0, POINTS), 5);
     }
 
     private static void goals() {
@@ -227,6 +231,13 @@ final class MatchSentences {
         y.match(32, 10, 0);
         Due.ints(y, 0, 0, 9);
         Due.is("all ranks change", y.season(0), 1);
+        ArmpitLine z = near();
+        z.call(3, 0, 1, 0, 0);
+        z.match(1, 0, 11);
+        Due.ints(z, 0, 8, 9);
+        Due.is("rank 3 by width 8", z.table(8, 0, RANK), 3);
+        Due.is("rank 0 by width 9", z.table(9, 0, RANK), 0);
+        Due.is("two sides change their ranks with one another", z.season(0), 1);
         for (int side = 0; side < 4; side++) {
             Due.is("the rank of side " + side + " alone", seasonOfOne(side), 1);
         }

@@ -128,6 +128,18 @@ final class MenSentences {
             Due.is("each is its own: " + p, x.part(0, p, 10 + p), 10 + p);
         }
         Due.is("nothing is said of part -1", x.says(0, -1, 0, 0), NO);
+        for (int m = 1; m < 10; m++) {
+            x.man(0, 0, 0);
+        }
+        for (int k = 4; k < 40; k++) {
+            x.part(k / 4, k % 4, k);
+        }
+        for (int m = 1; m < 10; m++) {
+            Due.is("front of man " + m, x.front(m, 0, 0), 4 * m + 3);
+            for (int p = 0; p < 4; p++) {
+                Due.is("part " + p + " of man " + m, x.part(m, p, 0), 4 * m + p);
+            }
+        }
         Due.is("part 0 is the head, which does not count at first", x.says(0, 0, 0, 0), 0);
         Due.is("part 3 is the foot, which does", x.says(0, 3, 0, 0), 1);
         Due.is("nothing is said of part 4", x.says(0, 4, 0, 0), NO);

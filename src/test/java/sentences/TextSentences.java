@@ -35,6 +35,7 @@ final class TextSentences {
         feedBad();
         feedFull();
         text();
+        longTexts();
         textFault();
         textFull();
     }
@@ -55,6 +56,9 @@ final class TextSentences {
         Due.is("a text of 159 bytes", readPadded(159, 1), 1);
         Due.is("a text of 160 bytes", readPadded(160, 1), 1);
         Due.is("a text of 161 bytes has lost its last one: it ends too early", readPadded(161, 1), -260);
+        fault(";".repeat(160), 0);
+        fault("count(((((" + ")".repeat(150), 10);
+        fault("count 1" + BEHIND + "(".repeat(138), 22);
     }
 
     /** Blanks, then a text, so many bytes in all and so many at a time. */
@@ -277,6 +281,8 @@ final class TextSentences {
             faultIn(name + "s", 0);
             faultIn(name.substring(0, name.length() - 1), 0);
             faultIn(name.substring(1), 0);
+            faultIn("x" + name.substring(1), 0);
+            faultIn(name.substring(0, name.length() - 1) + "x", 0);
         }
         faultIn("side", 0);
         Due.sentence("Terms 1", "count, near, play, or, and, not are KEYS.");
@@ -471,6 +477,21 @@ final class TextSentences {
         Due.is("text 2 is the later one", x.says(0, 1, 0, 0), 4);
         x.force(1);
         Due.is("text 1 is the earlier one", x.says(0, 1, 0, 0), 3);
+    }
+
+    /** Five texts of 140 bytes, a fault ahead of each: none has anything of those ahead of it. */
+    private static void longTexts() {
+        Due.sentence("Promise 11", "THE TAPE, which is empty then (by a FAULT, too), is a TEXT");
+        ArmpitLine x = new ArmpitLine();
+        x.man(0, 0, 0);
+        for (int t = 1; t < 6; t++) {
+            Due.is("a fault", Due.read(x, "count 1" + "+1".repeat(50) + "+"), -208);
+            Due.is("text " + t, Due.read(x, "count 1" + "+1".repeat(20 + t) + ";near 2" + "+2".repeat(30) + ";play 3;"), t);
+            x.force(t);
+            Due.is("count by text " + t, x.says(0, 0, 0, 0), 21 + t);
+            Due.is("near by text " + t, x.says(0, 0, 0, 1), 62);
+            Due.is("play by text " + t, x.says(0, 0, 0, 2), 3);
+        }
     }
 
     private static void textFault() {

@@ -9,6 +9,7 @@ final class WidthSentences {
     static void all() {
         toldWidths();
         asIfItWere();
+        asIfAlone();
         toldCalls();
         wrongGoals();
         wrongNone();
@@ -76,6 +77,46 @@ final class WidthSentences {
         x.part(0, 0, -20);
         Due.is("parts that count by it", x.wrong(0, 1, 2, 0), 0);
         Due.is("told now", x.told(0, 3), 1);
+    }
+
+    /** What is only as if, is over when the call has been answered. */
+    private static void asIfAlone() {
+        Due.sentence("Terms 3", "each as if it were WIDTH)");
+        ArmpitLine x = two();
+        x.match(1, 0, 3);
+        Due.rule(x, "count width < 9 and part = 2; near width; play width < 9;");
+        x.part(0, 2, 5);
+        Due.ints(x, 0, 999);
+        for (int what = 0; what < 5; what++) {
+            askAsIf(x, what);
+            Due.is("front after " + what, x.front(0, 0, 0), 515);
+            askAsIf(x, what);
+            Due.is("foremost after " + what, x.front(0, 0, 1), 2);
+            askAsIf(x, what);
+            Due.is("where he is after " + what, x.front(0, 0, 2), 510);
+            askAsIf(x, what);
+            Due.is("said after " + what, x.says(0, 0, 0, 1), 0);
+            askAsIf(x, what);
+            Due.is("margin after " + what, x.told(0, 1), 15);
+            askAsIf(x, what);
+            Due.is("offside after " + what, x.offside(), 3);
+            askAsIf(x, what);
+            Due.is("width after " + what, x.count(9), 0);
+        }
+    }
+
+    private static void askAsIf(ArmpitLine x, int what) {
+        if (what == 0) {
+            Due.is("wrong", x.wrong(0, 1, 0, 0), 0);
+        } else if (what == 1) {
+            Due.is("best", x.best(0, 1, 101), 999);
+        } else if (what == 2) {
+            Due.is("table", x.table(999, 0, 1), 1);
+        } else if (what == 3) {
+            Due.is("season", x.season(0), 0);
+        } else {
+            Due.is("stand", x.stand(0, 999, 1), 0);
+        }
     }
 
     private static void toldCalls() {
@@ -253,6 +294,8 @@ final class WidthSentences {
         Due.is("a wrong goal costs 2, a wrong none 1", x.best(1, 3, 201), 0);
         Due.is("of no calls: the first", x.best(1, 0, 9999), 999);
         Due.is("the width stays", x.count(9), 0);
+        Due.ints(x, 2, 999);
+        Due.is("the one that is told, though 0 would cost less", x.best(2, 3, 100), 999);
     }
 
     private static void bestRefused() {
