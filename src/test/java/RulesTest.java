@@ -32,6 +32,7 @@ public final class RulesTest {
         nested();
         source();
         made();
+        neverThrown();
         Due.end();
     }
 
@@ -138,6 +139,39 @@ public final class RulesTest {
             }
         }
         return true;
+    }
+
+    /** Rule 7: each call, with numbers from far below to far above, on a new object and on one with much in it. */
+    private static void neverThrown() {
+        int[] numbers = {Integer.MIN_VALUE, -1, 0, 1, 2, 5, 10, 999, Integer.MAX_VALUE};
+        for (Method m : ArmpitLine.class.getDeclaredMethods()) {
+            if (Modifier.isPublic(m.getModifiers())) {
+                ArmpitLine filled = new ArmpitLine();
+                dearRun(filled);
+                int calls = (int) Math.pow(numbers.length, m.getParameterCount());
+                for (int k = 0; k < calls; k++) {
+                    String thrown = thrownBy(m, new ArmpitLine(), numbers, k) + thrownBy(m, filled, numbers, k);
+                    Due.holds(m.getName() + " throws " + thrown, thrown.isEmpty());
+                }
+            }
+        }
+    }
+
+    /** What a call throws whose arguments are told by the digits of k; nothing, as is due. */
+    private static String thrownBy(Method m, ArmpitLine x, int[] numbers, int k) {
+        Object[] arguments = new Object[m.getParameterCount()];
+        int rest = k;
+        for (int a = 0; a < arguments.length; a++) {
+            int v = numbers[rest % numbers.length];
+            arguments[a] = m.getParameterTypes()[a] == long.class ? (Object) (long) v : (Object) v;
+            rest /= numbers.length;
+        }
+        try {
+            m.invoke(x, arguments);
+            return "";
+        } catch (ReflectiveOperationException e) {
+            return e.getCause() + " with " + Arrays.toString(arguments) + " ";
+        }
     }
 
     /** Rows are made in constructors: a run of the dearest calls makes nothing more. */

@@ -392,5 +392,10 @@ final class MenSentences {
             x.move(0, 0, n);
         }
         Due.is("the 512th call", x.front(0, 0, 2), 511);
+        for (int n = 0; n < 512; n++) {
+            x.man(0, 0, 0);
+            x.feed(8, n);
+        }
+        Due.holds("what later calls answer is free, but none throws", true);
     }
 }
