@@ -13,6 +13,7 @@ final class Doc {
     private static final Path FILE = Path.of("../shared/DOC.md");
     private static final Pattern HEADING = Pattern.compile("(?m)^## (.*)$");
     private static final Pattern TERMS = Pattern.compile("==== (\\d) ");
+    private static final Pattern METHOD = Pattern.compile("public ((?:int|long) \\w+\\([^)]*\\));");
     private static final Map<String, String> WORDS = new LinkedHashMap<>();
     private static final Map<String, boolean[]> NAMED = new LinkedHashMap<>();
 
@@ -58,7 +59,7 @@ final class Doc {
 
     /** Without the frames of blocks and without the face of a call ahead of its words. */
     private static void put(String where, String text) {
-        String words = text.replace("```text", " ").replace("```", " ");
+        String words = text.replaceAll("```(text|java)?", " ");
         words = words.replaceAll("\\s+", " ").trim().replaceAll("^`[^`]*`: ", "");
         WORDS.put(where, words);
         NAMED.put(where, new boolean[words.length()]);
@@ -75,12 +76,28 @@ final class Doc {
         return at >= 0 && !words.isEmpty();
     }
 
-    /** What no test has named yet of the terms and the promises. */
+    /** All words under a heading, each run of blanks and line ends as one blank. */
+    static String words(String where) {
+        read();
+        return WORDS.getOrDefault(where, "");
+    }
+
+    /** The methods of the public face, as "int text()", in their order: of the first one tells Promise 2. */
+    static List<String> face() {
+        List<String> methods = new ArrayList<>();
+        Matcher m = METHOD.matcher(words("The public face"));
+        while (m.find()) {
+            methods.add(m.group(1));
+        }
+        return methods;
+    }
+
+    /** What no test has named yet of the face, the terms and the promises. */
     static List<String> unnamed() {
         read();
         List<String> rest = new ArrayList<>();
         for (String where : WORDS.keySet()) {
-            if (where.matches("(Terms|Promise) \\d+")) {
+            if (where.matches("The public face|(Terms|Promise) \\d+")) {
                 addUnnamed(where, rest);
             }
         }
